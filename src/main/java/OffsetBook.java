@@ -20,7 +20,6 @@ public final class OffsetBook {
     private static final int MAX_STATEMENTS = 120;
     private static final int MAX_STATEMENTS_OF_A_TEXT = 12;
     private static final int MAX_ACTS = 20;
-    private static final int IMAGES = 2;
     private static final int PINS = 2;
     private static final int ROOMS = 4;
     private static final long MAX_DIFFERENCE = 1000000000000000000L;
@@ -43,13 +42,10 @@ public final class OffsetBook {
     private final Web web = new Web();
     private final Acts acts = new Acts();
     private final Pins pins = new Pins();
-    private final Told[] images = new Told[IMAGES];
-    private final boolean[] imageMade = new boolean[IMAGES];
+    private final Told[] images = {new Told(), new Told()};
+    private final boolean[] imageMade = {false, false};
 
     public OffsetBook() {
-        for (int k = 0; k < IMAGES; k++) {
-            images[k] = new Told();
-        }
     }
 
     public int feed(int a, int b, int c, int d, int e) {
@@ -253,7 +249,7 @@ public final class OffsetBook {
     }
 
     public int image(int k) {
-        if (k < 0 || k >= IMAGES) {
+        if (k < 0 || k >= images.length) {
             return NONE;
         }
         images[k].becomeLike(told);
@@ -262,7 +258,7 @@ public final class OffsetBook {
     }
 
     public int back(int k) {
-        if (k < 0 || k >= IMAGES || !imageMade[k]) {
+        if (k < 0 || k >= images.length || !imageMade[k]) {
             return NONE;
         }
         told.becomeLike(images[k]);
