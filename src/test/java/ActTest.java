@@ -9,6 +9,7 @@ public final class ActTest {
         pins();
         pinsStay();
         images();
+        imagesAreWhole();
         imagesAndActs();
         Check.finish("ActTest");
     }
@@ -174,6 +175,7 @@ public final class ActTest {
     private static void images() {
         OffsetBook book = Check.told("a=5;b=a+1");
         Check.due("back(0)", book.back(0), -1);
+        Check.due("back(1)", book.back(1), -1);
         Check.due("back(2)", book.back(2), -1);
         Check.due("back(-1)", book.back(-1), -1);
         Check.due("image(2)", book.image(2), -1);
@@ -203,6 +205,26 @@ public final class ActTest {
         Check.due("cc", Check.gauge(book, "cc"), 3);
         Check.due("cc", book.letter(3, 1), 3);
         Check.due("difference", book.difference(3, 2), 2);
+    }
+
+    private static void imagesAreWhole() {
+        OffsetBook book = Check.told("ab=5;c=ab+2");
+        Check.due("image", book.image(1), 2);
+        Check.due("undo", book.undo(), 0);
+        Check.due("tell", Check.tell(book, "x=y-1;zzz=1;x=9"), 3);
+        Check.due("retract", book.retract(0), 2);
+        Check.due("retract", book.retract(2), 1);
+        Check.due("back", book.back(1), 2);
+        Check.due("letters", book.letter(1, -1), 2);
+        Check.due("letter", book.letter(1, 1), 2);
+        Check.due("letters", book.letter(2, -1), 1);
+        Check.due("first", book.statement(1, 1), 2);
+        Check.due("second", book.statement(1, 2), 1);
+        Check.due("amount", book.amount(0), 5);
+        Check.due("amount", book.amount(1), 2);
+        Check.due("RETRACTED", book.count(6), 0);
+        Check.due("tell", Check.tell(book, "d=8"), 3);
+        Check.due("not RETRACTED, as the one that was there", book.statement(2, 0), 0);
     }
 
     private static void imagesAndActs() {

@@ -5,6 +5,8 @@ public final class ChainTest {
         firstOfSeveral();
         hanging();
         cuts();
+        oneCutAfterAnother();
+        aWayTakenBack();
         fewestOnTheFirstSide();
         manyWays();
         blame();
@@ -103,6 +105,34 @@ public final class ChainTest {
         Check.due("without it", book.cut(-1, -1), -1);
         Check.due("retract", book.retract(4), 4);
         Check.due("RETRACTED", book.cut(4, -1), -1);
+    }
+
+    private static void oneCutAfterAnother() {
+        OffsetBook book = Check.told("a=b;b=c;b=c;b=c;c=d;c=d;a=c+1;b=d+1");
+        Check.due("cut(6, 0)", book.cut(6, 0), 0);
+        Check.due("cut(7, 0)", book.cut(7, 0), 4);
+        Check.due("cut(7, 1)", book.cut(7, 1), 5);
+        chain(book, 4, 1, 4, 1, 0);
+        Check.due("cut(7, NONE)", book.cut(7, -1), 2);
+        chain(book, 1, 4, 0, 1, 4);
+        Check.due("cut(6, NONE)", book.cut(6, -1), 1);
+        hang(book, 3, 0, 0, 0, 0, 0, 0, 0);
+        Check.due("cut(7, 1)", book.cut(7, 1), 5);
+        hang(book, 3, 0, 0, 0, 0, 0, 0, 0);
+    }
+
+    /**
+     * Whoever counts ways from s to t that share no STATEMENT meets the short one by a and b
+     * first, has to give up the step from a to b for a second way, and to take it for a third.
+     */
+    private static void aWayTakenBack() {
+        for (String middle : new String[] {"a=b", "b=a"}) {
+            OffsetBook book = Check.told("s=a;" + middle + ";b=t;s=c;c=d;d=b;a=e;e=f;f=t;s=t+1");
+            cut(book, 9, 0, 3);
+            Check.tell(book, "s=g;g=h;h=i;i=j;j=a;b=k;k=l;l=m;m=n;n=t;t=s+1");
+            cut(book, 9, 0, 3, 10);
+            cut(book, 20, 2, 8, 19);
+        }
     }
 
     private static void fewestOnTheFirstSide() {

@@ -151,6 +151,15 @@ public final class LedgerTest {
             Check.tell(book, "" + (char) ('a' + n / 26) + (char) ('a' + n % 26) + (n == 39 ? "=1" : "=0"));
         }
         Check.due("1/41", book.mean(0), Double.doubleToLongBits(1.0 / 41));
+        Check.due("order(40, 40)", book.order(40, 40), 40);
+        Check.due("order(40, 41)", book.order(40, 41), -2);
+        Check.due("order(41, 0)", book.order(41, 0), -1);
+        Check.due("group(40, 1)", book.group(40, 1), 41);
+        Check.due("twos(0)", book.twos(0), 780);
+        Check.due("twos(1)", book.twos(1), 40);
+        Check.due("twos known", book.count(8), 820);
+        Check.due("HANG", book.count(9), 40);
+        Check.due("RELY", book.statement(39, 4), 40);
     }
 
     private static void twos() {

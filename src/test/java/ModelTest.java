@@ -164,7 +164,12 @@ public final class ModelTest {
         int chosen = random.nextInt(model.statements() + 1);
         for (int s = -1; s <= model.statements(); s++) {
             if (all || s == chosen) {
-                askStatement(s, all && (names < 11 || s % 8 == 0));
+                askStatement(s, all);
+            }
+        }
+        for (int s = 0; all && s < model.statements(); s++) {
+            if (model.verdicts.get(s) == 2 && (names < 11 || s % 8 == 0)) {
+                askCut(s);
             }
         }
         for (long amount = -2; amount < 8; amount++) {
@@ -218,7 +223,7 @@ public final class ModelTest {
         due("chain behind", book.chain(g, h, chain == null ? 0 : chain.size()), without);
     }
 
-    private void askStatement(int s, boolean deep) {
+    private void askStatement(int s, boolean all) {
         boolean there = s >= 0 && s < model.statements();
         due("statement 0 of " + s, book.statement(s, 0), there ? model.verdicts.get(s) : -1);
         due("statement 1 of " + s, book.statement(s, 1), there ? model.state.said().get(s).first() : -1);
@@ -228,7 +233,7 @@ public final class ModelTest {
         due("amount of " + s, book.amount(s), there ? model.state.said().get(s).amount() : Long.MIN_VALUE);
         if (!there || model.verdicts.get(s) != 2) {
             due("cut", book.cut(s, random.nextInt(3) - 1), -1);
-        } else if (deep) {
+        } else if (!all) {
             askCut(s);
         }
     }
@@ -240,6 +245,7 @@ public final class ModelTest {
         }
         if (cut != null) {
             due("cut of " + s, book.cut(s, -1), cut.size());
+            askChain(random.nextInt(model.gauges()), random.nextInt(model.gauges()));
             due("cut behind", book.cut(s, cut.size()), -2);
         }
     }

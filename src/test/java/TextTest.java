@@ -2,6 +2,8 @@
 public final class TextTest {
     public static void main(String[] args) {
         tape();
+        bytesLeftOut();
+        fullTape();
         texts();
         wrongBytes();
         tooLong();
@@ -41,6 +43,43 @@ public final class TextTest {
         Check.due("the first byte that is wrong", book.tell(), Check.fault(6, 1));
         Check.due("empty then", book.count(11), 0);
         highestFirst();
+    }
+
+    private static void bytesLeftOut() {
+        String[] texts = {"a=b", "a=12", "a=5 6", "a=bc", "a=b+1", "ab=1", "a=1;b=1", "a=-1"};
+        int[] ends = {2, 3, 4, 3, 4, 1, 4, 3};
+        int[] due = {Check.fault(2, 1), 1, 1, 1, Check.fault(4, 1), Check.fault(1, 1),
+            Check.fault(4, 1), Check.fault(3, 1)};
+        for (int n = 0; n < texts.length; n++) {
+            OffsetBook book = new OffsetBook();
+            Check.put(book, texts[n]);
+            Check.due("end", book.end(ends[n]), ends[n]);
+            Check.due("tell " + texts[n] + " up to " + ends[n], book.tell(), due[n]);
+        }
+        OffsetBook book = Check.told("a=12", "a=1");
+        Check.put(book, "b=12");
+        Check.due("end", book.end(3), 3);
+        Check.due("tell", book.tell(), 3);
+        Check.due("the digit behind is left out", book.amount(2), 1);
+        Check.put(book, "bc");
+        Check.due("end", book.end(1), 1);
+        Check.due("the letter behind is left out", book.gauge(), 2);
+    }
+
+    private static void fullTape() {
+        String[] tails = {"=b", "=7", "=", "=b+", "=b ", "", "=b+00007", ";", "=b-", "=-"};
+        int[] due = {1, 1, Check.fault(300, 1), Check.fault(300, 1), 1, Check.fault(300, 1), 1,
+            Check.fault(299, 1), Check.fault(300, 1), Check.fault(300, 1)};
+        for (int n = 0; n < tails.length; n++) {
+            OffsetBook book = new OffsetBook();
+            String text = " ".repeat(299 - tails[n].length()) + "a" + tails[n];
+            Check.due("300 bytes that end with a" + tails[n], Check.tell(book, text), due[n]);
+        }
+        OffsetBook book = new OffsetBook();
+        Check.due("blanks alone", Check.tell(book, " ".repeat(300)), Check.fault(300, 1));
+        Check.due("letters alone", Check.tell(book, "a".repeat(300)), Check.fault(0, 2));
+        Check.due("no NAME", Check.gauge(book, "a".repeat(300)), -1);
+        Check.due("digits", Check.test(book, "a=" + "0".repeat(298)), Check.fault(2, 2));
     }
 
     private static void highestFirst() {
