@@ -516,12 +516,12 @@ public final class OffsetBook {
 
         private void readStatement(Told told) {
             tape.passBlanks();
-            int begin = tape.place;
-            int one = readName(told);
-            // Behind the NAME, though it is seen ahead of it: of one place the least FAULT counts.
-            if (isFull(told)) {
-                fail(begin, STATEMENT_TOO_MANY);
+            // Ahead of the NAME, which is judged only when it has been read.
+            if (tape.isLetterHere() && isFull(told)) {
+                fail(tape.place, STATEMENT_TOO_MANY);
+                return;
             }
+            int one = readName(told);
             if (fault == 0) {
                 pass('=');
             }

@@ -121,9 +121,10 @@ final class Model {
             if (isName && expects.equals("right") && word.equals(first)) {
                 faults.add(4);
             }
+            // Judged as soon as a NAME begins it, so whatever that NAME turns out to be.
             if (isName && expects.equals("name")
                 && (into.said.size() - before == 12 || into.said.size() == 120)) {
-                faults.add(5);
+                return 8 * token.begin + 5;
             }
             if (!faults.isEmpty()) {
                 return 8 * token.begin + Collections.min(faults);

@@ -11,6 +11,7 @@ public final class TextTest {
         sameName();
         statementsTooMany();
         leastOfOnePlace();
+        tooManyAheadOfItsName();
         faultChangesNothing();
         loneStatements();
         names();
@@ -220,15 +221,47 @@ public final class TextTest {
     }
 
     private static void leastOfOnePlace() {
-        String twelve = "a=1;a=1;a=1;a=1;a=1;a=1;a=1;a=1;a=1;a=1;a=1;a=1;";
         OffsetBook book = withNames(40);
-        Check.due("2 of 2 and 5", Check.tell(book, twelve.replace("a", "aa") + "abcdefg"),
-            Check.fault(60, 2));
-        Check.due("3 of 3 and 5", Check.tell(book, twelve.replace("a", "aa") + "z=1"),
-            Check.fault(60, 3));
-        Check.due("5 alone", Check.tell(book, twelve.replace("a", "aa") + "ab=1"),
-            Check.fault(60, 5));
         Check.due("2 of 2 and 3", Check.tell(book, "zzzzzzz=1"), Check.fault(0, 2));
+        Check.due("2 of 2 and 3 behind =", Check.tell(book, "aa=zzzzzzz"), Check.fault(3, 2));
+        Check.due("2 of 2 and 3 in test", Check.test(book, "zzzzzzz=1"), Check.fault(0, 2));
+    }
+
+    /** One too many is judged as a NAME begins it, ahead of that NAME. */
+    private static void tooManyAheadOfItsName() {
+        String twelve = "aa=1;aa=1;aa=1;aa=1;aa=1;aa=1;aa=1;aa=1;aa=1;aa=1;aa=1;aa=1;";
+        String[] thirteenths = {"ab=1", "abcdefg=1", "abcdefghijk", "z=1", "z", "zzzzzzz?", "a?"};
+        OffsetBook book = withNames(40);
+        for (String more : thirteenths) {
+            Check.due("13th " + more, Check.tell(book, twelve + more), Check.fault(60, 5));
+            Check.due("13th, blanks ahead " + more, Check.tell(book, twelve + "  " + more),
+                Check.fault(62, 5));
+        }
+        Check.due("the 12th too long", Check.tell(book, twelve.substring(5) + "abcdefg=1"),
+            Check.fault(55, 2));
+        Check.due("the 12th one NAME too many", Check.tell(book, twelve.substring(5) + "z=1"),
+            Check.fault(55, 3));
+        Check.due("no NAME begins a 13th", Check.tell(book, twelve + "?abcdefg"),
+            Check.fault(60, 1));
+        Check.due("nor a digit", Check.tell(book, twelve + "1234567890123456789"),
+            Check.fault(60, 1));
+        for (int n = 1; n <= 6; n++) {
+            Check.due("12 more", Check.tell(book, twelve.substring(0, 59)), 40 + 12 * n);
+        }
+        Check.due("7 more", Check.tell(book, twelve.substring(0, 34)), 119);
+        Check.due("the 120th too long", Check.test(book, "abcdefg"), Check.fault(0, 2));
+        Check.due("the 120th one NAME too many", Check.test(book, "z"), Check.fault(0, 3));
+        for (String more : thirteenths) {
+            Check.due("121st " + more, Check.tell(book, "aa=1;" + more), Check.fault(5, 5));
+        }
+        Check.due("the 120th", Check.tell(book, "aa=1"), 120);
+        for (String more : thirteenths) {
+            Check.due("121st " + more, Check.tell(book, more), Check.fault(0, 5));
+            Check.due("test of a 121st " + more, Check.test(book, " " + more), Check.fault(1, 5));
+        }
+        Check.due("test of no NAME", Check.test(book, "?"), Check.fault(0, 1));
+        Check.due("test of nothing", Check.test(book, ""), Check.fault(0, 1));
+        Check.due("none came", book.count(0), 41);
     }
 
     private static void faultChangesNothing() {
