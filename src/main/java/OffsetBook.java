@@ -957,7 +957,7 @@ public final class OffsetBook {
                 }
             }
             for (int s = 0; s < MAX_STATEMENTS; s++) {
-                if (isStanding(s) && lowerEnd(s) == NONE) {
+                if (isStanding(s) && !isInTree(s)) {
                     markRing(leads[2 * s], leads[2 * s + 1]);
                 }
             }
@@ -965,13 +965,9 @@ public final class OffsetBook {
             fillRely();
         }
 
-        private int lowerEnd(int statement) {
-            int second = leads[2 * statement];
-            int first = leads[2 * statement + 1];
-            if (reachedBy[second] == 2 * statement) {
-                return second;
-            }
-            return reachedBy[first] == 2 * statement + 1 ? first : NONE;
+        private boolean isInTree(int statement) {
+            int way = 2 * statement;
+            return reachedBy[leads[way]] == way || reachedBy[leads[way + 1]] == way + 1;
         }
 
         private int above(int gauge) {

@@ -10,6 +10,8 @@ public final class ActTest {
         pinsStay();
         images();
         imagesAreWhole();
+        imagesOfAllNames();
+        imagesOfAllStatements();
         imagesAndActs();
         Check.finish("ActTest");
     }
@@ -225,6 +227,48 @@ public final class ActTest {
         Check.due("RETRACTED", book.count(6), 0);
         Check.due("tell", Check.tell(book, "d=8"), 3);
         Check.due("not RETRACTED, as the one that was there", book.statement(2, 0), 0);
+    }
+
+    private static void imagesOfAllNames() {
+        OffsetBook book = Check.withNames(40);
+        Check.due("image", book.image(1), 40);
+        for (int n = 3; n >= 0; n--) {
+            Check.due("undo", book.undo(), n);
+        }
+        for (int n = 0; n < 40; n++) {
+            Check.tell(book, "z" + Check.name(39 - n) + "z=2");
+        }
+        Check.due("image", book.image(0), 40);
+        Check.due("back", book.back(1), 40);
+        for (int n = 0; n < 40; n++) {
+            String name = Check.name(n);
+            Check.due("letters", book.letter(n + 1, -1), 2);
+            Check.due("letter", book.letter(n + 1, 0), name.charAt(0) - 'a' + 1);
+            Check.due("letter", book.letter(n + 1, 1), name.charAt(1) - 'a' + 1);
+        }
+        Check.due("back", book.back(0), 40);
+        Check.due("letters", book.letter(40, -1), 4);
+        Check.due("the last NAME", Check.gauge(book, "z" + Check.name(0) + "z"), 40);
+    }
+
+    private static void imagesOfAllStatements() {
+        OffsetBook book = Check.withStatements(119);
+        Check.due("tell", Check.tell(book, "a=b-7"), 120);
+        Check.due("retract", book.retract(118), 119);
+        Check.due("image", book.image(0), 120);
+        Check.due("restore", book.restore(118), 120);
+        for (int n = 12; n >= 0; n--) {
+            Check.due("undo", book.undo(), n);
+        }
+        Check.due("tell", Check.tell(book, "q=3"), 1);
+        Check.due("back", book.back(0), 120);
+        Check.due("what it is", book.statement(117, 0), 1);
+        Check.due("what it is", book.statement(118, 0), 4);
+        Check.due("what it is", book.statement(119, 0), 0);
+        Check.due("its second", book.statement(119, 2), 2);
+        Check.due("amount", book.amount(119), -7);
+        Check.due("a", book.offset(1), 1);
+        Check.due("b", book.offset(2), 8);
     }
 
     private static void imagesAndActs() {

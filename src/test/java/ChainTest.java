@@ -1,14 +1,20 @@
+import java.util.Arrays;
+
 /** CHAINS, what HANGS, RELY, CUT and BLAME: promises 9 and 20 to 22. */
 public final class ChainTest {
     public static void main(String[] args) {
         chains();
         firstOfSeveral();
         hanging();
+        ringsOfAllLengths();
+        rowsOfAllLengths();
         cuts();
         oneCutAfterAnother();
         aWayTakenBack();
         fewestOnTheFirstSide();
         manyWays();
+        waysGivenUp();
+        theLastNumbers();
         blame();
         Check.finish("ChainTest");
     }
@@ -80,6 +86,51 @@ public final class ChainTest {
         hang(book, 0, 0, 0, 0, 0, 14, 0, 0, 20, 18, 0, 8, 0);
         Check.due("retract", book.retract(0), 9);
         hang(book, 0, 8, 8, 0, 0, 14, 0, 0, 20, 18, 0, 8, 0);
+    }
+
+    private static OffsetBook inTwelves(String[] statements) {
+        OffsetBook book = new OffsetBook();
+        for (int n = 0; n < statements.length; n += 12) {
+            int end = Math.min(n + 12, statements.length);
+            String text = String.join(";", Arrays.copyOfRange(statements, n, end));
+            Check.due("tell " + text, Check.tell(book, text), end);
+        }
+        return book;
+    }
+
+    /** None of a ring HANGS, however long it is and wherever it was closed; what is at it does. */
+    private static void ringsOfAllLengths() {
+        for (int length = 2; length <= 39; length++) {
+            for (int first : new int[] {0, 1, length / 2, length - 1}) {
+                String[] ring = new String[length + 1];
+                for (int n = 0; n < length; n++) {
+                    int at = (first + n) % length;
+                    ring[n] = Check.name(at) + "=" + Check.name((at + 1) % length);
+                }
+                ring[length] = Check.name(first) + "=" + Check.name(39);
+                OffsetBook book = inTwelves(ring);
+                int[] rely = new int[length + 1];
+                rely[length] = length;
+                hang(book, rely);
+            }
+        }
+    }
+
+    /** All of a row HANG, and by each the GAUGES on one side are known from those on the other. */
+    private static void rowsOfAllLengths() {
+        for (int length : new int[] {1, 2, 3, 20, 39, 40}) {
+            String[] row = new String[length];
+            int[] rely = new int[length];
+            int[] chain = new int[length];
+            for (int n = 0; n < length; n++) {
+                row[n] = Check.name(n) + "=" + (n == 0 ? "1" : Check.name(n - 1) + "+1");
+                rely[n] = (n + 1) * (length - n);
+                chain[n] = n;
+            }
+            OffsetBook book = inTwelves(row);
+            hang(book, rely);
+            chain(book, 0, length, chain);
+        }
     }
 
     private static void cut(OffsetBook book, int statement, int... due) {
@@ -155,6 +206,36 @@ public final class ChainTest {
         Check.due("behind it", book.cut(119, 119), -2);
         Check.due("blame", book.blame(0), 0);
         Check.due("blame", book.blame(1), 1);
+    }
+
+    /** A second way gives up a step of the first one, which can then be taken either way again. */
+    private static void waysGivenUp() {
+        cut(Check.told("c=a;i=d;b=g;i=c;c=g;d=h;i=f;b=i;h=f;a=f;d=a;a=b+1"), 11, 4, 7);
+        cut(Check.told("d=f;b=f;d=c;a=b;g=f;c=b;h=c;d=a;e=f;a=e;a=g;a=g", "a=b+1"), 12, 1, 2, 3);
+        cut(Check.told("a=g;g=c;e=b;b=c;f=d;e=g;f=c;f=h;d=f;a=d;d=a;c=f", "a=b+1"), 12, 3, 5);
+        cut(Check.told("g=a;c=e;i=c;b=h;a=e;h=a;i=b;d=f;g=f;h=c;b=d;i=h", "i=g;c=a;a=b+1"), 14, 3, 6, 8);
+    }
+
+    /** All of this holds up to the last STATEMENT that can be kept. */
+    private static void theLastNumbers() {
+        OffsetBook book = Check.withStatements(115);
+        Check.due("tell", Check.tell(book, "b=c;c=d;d=b;e=d;e=b+1"), 120);
+        int[] rely = {0, 0, 0, 3, 0};
+        for (int n = 0; n < 5; n++) {
+            Check.due("HANGS", book.statement(115 + n, 3), n == 3 ? 1 : 0);
+            Check.due("RELY", book.statement(115 + n, 4), rely[n]);
+        }
+        Check.due("HANG", book.count(9), 1);
+        chain(book, 5, 2, 118, 117);
+        chain(book, 2, 4, 117);
+        chain(book, 1, 0, 0);
+        cut(book, 119, 118);
+        Check.due("blame(0)", book.blame(0), 117);
+        Check.due("blame(1)", book.blame(1), 1);
+        Check.due("retract", book.retract(118), 119);
+        Check.due("it JOINS", book.statement(119, 0), 0);
+        Check.due("RELY", book.statement(119, 4), 3);
+        chain(book, 5, 4, 119, 117);
     }
 
     private static void blame() {

@@ -79,6 +79,44 @@ final class Check {
         return book;
     }
 
+    /** Of 40 NAMES and more, the n-th (0 the first): two letters each. */
+    static String name(int n) {
+        return "" + (char) ('a' + n / 26) + (char) ('a' + n % 26);
+    }
+
+    /** STATEMENTS that give a value of 1 to so many NAMES, from the n-th on, as one TEXT. */
+    static String values(int from, int many) {
+        StringBuilder text = new StringBuilder();
+        for (int n = from; n < from + many; n++) {
+            text.append(n == from ? "" : ";").append(name(n)).append("=1");
+        }
+        return text.toString();
+    }
+
+    /** One with so many NAMES, each with a value of 1. */
+    static OffsetBook withNames(int names) {
+        OffsetBook book = new OffsetBook();
+        for (int n = 0; n < names; n += 12) {
+            tell(book, values(n, Math.min(12, names - n)));
+        }
+        due("GAUGES", book.count(0), names + 1);
+        return book;
+    }
+
+    /** One with so many STATEMENTS, all of them a=1. */
+    static OffsetBook withStatements(int statements) {
+        OffsetBook book = new OffsetBook();
+        for (int n = 0; n < statements; n += 12) {
+            tell(book, again("a=1", Math.min(12, statements - n)));
+        }
+        due("STATEMENTS", book.count(1), statements);
+        return book;
+    }
+
+    static String again(String statement, int many) {
+        return (statement + ";").repeat(many - 1) + statement;
+    }
+
     static int fault(int place, int why) {
         return -2 - (8 * place + why);
     }

@@ -5,7 +5,7 @@ import java.lang.reflect.Modifier;
 import java.util.Set;
 import java.util.TreeSet;
 
-/** The public face, and promise 1. */
+/** The public face, with its constants. */
 public final class FaceTest {
     private static final String[] FACE = {
         "int feed(int,int,int,int,int)", "int end(int)", "int tell()", "int test()",
@@ -18,7 +18,6 @@ public final class FaceTest {
 
     public static void main(String[] args) throws ReflectiveOperationException {
         members();
-        newObject();
         Check.finish("FaceTest");
     }
 
@@ -56,37 +55,5 @@ public final class FaceTest {
             text.append(text.length() == 0 ? "" : ",").append(type);
         }
         return method.getReturnType() + " " + method.getName() + "(" + text + ")";
-    }
-
-    private static void newObject() {
-        OffsetBook book = new OffsetBook();
-        int[] counts = {1, 0, 0, 0, 0, 0, 0, 1, 0, 0, 0, 0};
-        for (int what = 0; what < counts.length; what++) {
-            Check.due("count(" + what + ") of a new one", book.count(what), counts[what]);
-        }
-        Check.due("group(0, 0)", book.group(0, 0), 0);
-        Check.due("group(0, 1)", book.group(0, 1), 1);
-        Check.due("group(1, 0)", book.group(1, 0), -1);
-        Check.due("offset(0)", book.offset(0), 0);
-        Check.due("offset(1)", book.offset(1), Long.MIN_VALUE);
-        Check.due("difference(0, 0)", book.difference(0, 0), 0);
-        Check.due("order(0, 0)", book.order(0, 0), 0);
-        Check.due("order(0, 1)", book.order(0, 1), -2);
-        Check.due("chain(0, 0, NONE)", book.chain(0, 0, -1), 0);
-        Check.due("chain(0, 0, 0)", book.chain(0, 0, 0), -2);
-        Check.due("span(0)", book.span(0), 0);
-        Check.due("mean(0)", book.mean(0), 0);
-        Check.due("twos(0)", book.twos(0), 0);
-        Check.due("undo()", book.undo(), -1);
-        Check.due("back(0)", book.back(0), -1);
-        Check.due("blame(0)", book.blame(0), -2);
-        Check.due("pinned(0, 0)", book.pinned(0, 0), -2);
-        Check.due("retract(0)", book.retract(0), -1);
-        Check.due("restore(0)", book.restore(0), -1);
-        Check.due("statement(0, 0)", book.statement(0, 0), -1);
-        Check.due("amount(0)", book.amount(0), Long.MIN_VALUE);
-        Check.due("tell()", book.tell(), -3);
-        Check.due("test()", book.test(), -3);
-        Check.due("gauge()", book.gauge(), -1);
     }
 }

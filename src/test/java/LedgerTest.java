@@ -9,9 +9,12 @@ public final class LedgerTest {
         differences();
         groups();
         orders();
+        everyGroupByItself();
         means();
+        powersOfTwo();
         twos();
         counts();
+        countsOfAllThatCanBe();
         Check.finish("LedgerTest");
     }
 
@@ -119,6 +122,24 @@ public final class LedgerTest {
         Check.due("span", far.span(0), MOST);
     }
 
+    /** SPAN, ORDER and what is BEYOND are of the GROUPS that are asked for, and no others. */
+    private static void everyGroupByItself() {
+        OffsetBook book = Check.told("a=b+5;c=d+999999999999999999;e=f-3;g=h;i=j-999999999999999999;k=1");
+        long[] spans = {1, 5, 5, MOST - 1, MOST - 1, 3, 3, 0, 0, MOST - 1, MOST - 1, 1};
+        int[] lowest = {0, 2, 2, 4, 4, 5, 5, 7, 7, 9, 9, 0};
+        for (int g = 0; g < spans.length; g++) {
+            Check.due("span(" + g + ")", book.span(g), spans[g]);
+            Check.due("order(" + g + ", 0)", book.order(g, 0), lowest[g]);
+            Check.due("order(" + g + ", 2)", book.order(g, 2), -2);
+        }
+        Check.due("joins, as others are far", Check.test(book, "a=e+7"), 0);
+        Check.due("joins, as others are far", Check.test(book, "f=k-7"), 0);
+        Check.due("just as far", Check.test(book, "e=d-1"), 0);
+        Check.due("one farther", Check.test(book, "e=d-2"), 3);
+        Check.due("just as far", Check.test(book, "f=c+1"), 0);
+        Check.due("one farther", Check.test(book, "f=c+2"), 3);
+    }
+
     private static void mean(String text, double due) {
         OffsetBook book = Check.told(text);
         Check.due("mean after " + text, book.mean(0), Double.doubleToLongBits(due));
@@ -143,6 +164,16 @@ public final class LedgerTest {
         Check.due("mean(4)", book.mean(4), Check.NOTHING);
         Check.due("mean(-1)", book.mean(-1), Check.NOTHING);
         smallMean();
+    }
+
+    private static void powersOfTwo() {
+        for (int n = 0; n < 60; n++) {
+            for (long more = -1; more <= 1; more++) {
+                long value = Math.min((1L << n) + more, MOST - 1);
+                mean("a=" + value, (double) value / 2);
+                mean("a=-" + value, -(double) value / 2 + 0.0);
+            }
+        }
     }
 
     private static void smallMean() {
@@ -188,5 +219,31 @@ public final class LedgerTest {
         Check.due("count(-1)", book.count(-1), -1);
         Check.due("count(MIN)", book.count(Integer.MIN_VALUE), -1);
         Check.due("count(MAX)", book.count(Integer.MAX_VALUE), -1);
+    }
+
+    private static void countsOfAllThatCanBe() {
+        OffsetBook book = Check.withNames(40);
+        String[] more = {"aa=1", "aa=2", "ab=aa", "ab=aa+1"};
+        for (int n = 0; n < 80; n += 8) {
+            Check.tell(book, String.join(";", more) + ";" + String.join(";", more));
+        }
+        int[] due = {41, 120, 40, 40, 40, 0, 0, 1, 820, 38, 14, 0};
+        for (int what = 0; what < due.length; what++) {
+            Check.due("count(" + what + ")", book.count(what), due[what]);
+        }
+        for (int s = 80; s < 120; s++) {
+            book.retract(s);
+        }
+        int[] then = {41, 120, 40, 20, 20, 0, 40, 1, 820, 38, 20, 0};
+        for (int what = 0; what < then.length; what++) {
+            Check.due("count(" + what + ")", book.count(what), then[what]);
+        }
+        for (int s = 0; s < 40; s++) {
+            book.retract(s);
+        }
+        int[] last = {41, 120, 2, 18, 20, 0, 80, 39, 3, 0, 20, 0};
+        for (int what = 0; what < last.length; what++) {
+            Check.due("count(" + what + ")", book.count(what), last[what]);
+        }
     }
 }

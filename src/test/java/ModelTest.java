@@ -12,6 +12,8 @@ public final class ModelTest {
     private final int names;
     private final long[] values;
     private final String run;
+    private final int questions;
+    private int calls = 0;
 
     private ModelTest(int seed) {
         random = new Random(seed);
@@ -24,27 +26,48 @@ public final class ModelTest {
             values[n] = (long) ((random.nextDouble() - 0.5) * width);
         }
         run = "run " + seed + ": ";
+        questions = random.nextInt(5);
     }
 
     public static void main(String[] args) {
-        int runs = args.length > 0 ? Integer.parseInt(args[0]) : 150;
+        int runs = args.length > 0 ? Integer.parseInt(args[0]) : 1500;
         for (int seed = 0; seed < runs && !Check.anyWrong(); seed++) {
             new ModelTest(seed).go();
         }
         Check.finish("ModelTest");
     }
 
+    /** An object is good for so many calls; what it answers later is free. */
+    private static final int CALLS = 512;
+
+    private static final class Spent extends RuntimeException {
+        private static final long serialVersionUID = 1L;
+    }
+
     private void due(String call, long got, long want) {
         Check.due(run + call, got, want);
+        calls++;
+        if (calls == CALLS) {
+            throw new Spent();
+        }
     }
 
     private void go() {
-        int acts = 20 + random.nextInt(60);
-        for (int n = 0; n < acts && !Check.anyWrong(); n++) {
-            change();
-            ask(n % 10 == 9);
+        try {
+            int acts = 10 + random.nextInt(70);
+            for (int n = 0; n < acts && !Check.anyWrong(); n++) {
+                change();
+                for (int q = random.nextInt(questions + 1); q > 0; q--) {
+                    ask();
+                }
+            }
+            while (!Check.anyWrong()) {
+                ask();
+            }
+        } catch (Spent spent) {
+            // The next run has a new object.
+            return;
         }
-        ask(true);
     }
 
     private void change() {
@@ -151,41 +174,47 @@ public final class ModelTest {
         due("end", book.end(bytes.length), model.end(bytes.length));
     }
 
-    private void ask(boolean all) {
-        for (int what = -1; what <= 12; what++) {
-            due("count " + what, book.count(what), model.count(what));
-        }
-        int one = random.nextInt(model.gauges() + 1);
-        for (int g = -1; g <= model.gauges(); g++) {
-            if (all || g == one) {
-                askGauge(g, all);
-            }
-        }
-        int chosen = random.nextInt(model.statements() + 1);
-        for (int s = -1; s <= model.statements(); s++) {
-            if (all || s == chosen) {
-                askStatement(s, all);
-            }
-        }
-        for (int s = 0; all && s < model.statements(); s++) {
-            if (model.verdicts.get(s) == 2 && (names < 11 || s % 8 == 0)) {
-                askCut(s);
-            }
-        }
-        for (long amount = -2; amount < 8; amount++) {
-            due("twos " + amount, book.twos(amount), amount < 0 ? -1 : model.twos(amount));
-        }
-        int[] blame = model.blame();
-        due("blame(0)", book.blame(0), blame[0]);
-        due("blame(1)", book.blame(1), blame[1]);
-        for (int pin = -1; pin <= 2; pin++) {
-            for (int room = -1; room <= 4; room++) {
-                due("pinned", book.pinned(pin, room), model.pinned(pin, room));
-            }
+    private int someGauge() {
+        return random.nextInt(12) == 0 ? ODD[random.nextInt(ODD.length)] : random.nextInt(model.gauges() + 1);
+    }
+
+    private void ask() {
+        int s = someStatement();
+        switch (random.nextInt(11)) {
+            case 0: case 1: askCount(); break;
+            case 2: case 3: askGauge(someGauge()); break;
+            case 4: askTwo(someGauge(), someGauge()); break;
+            case 5: askTwo(random.nextInt(model.gauges()), random.nextInt(model.gauges())); break;
+            case 6: askStatement(s); break;
+            case 7: case 8: askCut(s); break;
+            case 9: askBlame(); break;
+            default: askPins(); break;
         }
     }
 
-    private void askGauge(int g, boolean all) {
+    private void askCount() {
+        int what = random.nextInt(14) - 1;
+        due("count " + what, book.count(what), model.count(what));
+        long amount = random.nextInt(10) - 1;
+        if (random.nextBoolean()) {
+            amount = Math.abs(model.difference(random.nextInt(model.gauges()), random.nextInt(model.gauges())));
+        }
+        due("twos " + amount, book.twos(amount), amount < 0 ? -1 : model.twos(amount));
+    }
+
+    private void askBlame() {
+        int[] blame = model.blame();
+        due("blame(0)", book.blame(0), blame[0]);
+        due("blame(1)", book.blame(1), blame[1]);
+    }
+
+    private void askPins() {
+        int pin = random.nextInt(4) - 1;
+        int room = random.nextInt(6) - 1;
+        due("pinned", book.pinned(pin, room), model.pinned(pin, room));
+    }
+
+    private void askGauge(int g) {
         boolean there = model.isGauge(g);
         due("offset " + g, book.offset(g), model.offset(g));
         due("group 0 of " + g, book.group(g, 0), there ? model.least(g) : -1);
@@ -193,23 +222,18 @@ public final class ModelTest {
         due("mean " + g, book.mean(g), there ? model.mean(g) : Long.MIN_VALUE);
         String name = there && g > 0 ? model.state.names().get(g - 1) : "";
         due("letters of " + g, book.letter(g, -1), there ? name.length() : -1);
-        for (int k = 0; k < 7; k++) {
-            due("letter", book.letter(g, k), k < name.length() ? name.charAt(k) - 'a' + 1 : -1);
-        }
+        int at = random.nextInt(7);
+        due("letter", book.letter(g, at), at < name.length() ? name.charAt(at) - 'a' + 1 : -1);
         List<Integer> order = there ? model.order(g) : List.of();
-        for (int k = 0; k < order.size(); k++) {
-            due("order", book.order(g, k), order.get(k));
-        }
-        due("order", book.order(g, order.size()), there ? -2 : -1);
+        int k = random.nextInt(order.size() + 1);
+        due("order", book.order(g, k), k < order.size() ? order.get(k) : there ? -2 : -1);
         due("span " + g, book.span(g),
             there ? model.difference(order.get(order.size() - 1), order.get(0)) : Long.MIN_VALUE);
-        int one = random.nextInt(model.gauges() + 1);
-        for (int h = -1; h <= model.gauges(); h++) {
-            if (all && names < 11 || h == one) {
-                due("difference", book.difference(g, h), model.difference(g, h));
-                askChain(g, h);
-            }
-        }
+    }
+
+    private void askTwo(int g, int h) {
+        due("difference", book.difference(g, h), model.difference(g, h));
+        askChain(g, h);
     }
 
     private void askChain(int g, int h) {
@@ -223,7 +247,7 @@ public final class ModelTest {
         due("chain behind", book.chain(g, h, chain == null ? 0 : chain.size()), without);
     }
 
-    private void askStatement(int s, boolean all) {
+    private void askStatement(int s) {
         boolean there = s >= 0 && s < model.statements();
         due("statement 0 of " + s, book.statement(s, 0), there ? model.verdicts.get(s) : -1);
         due("statement 1 of " + s, book.statement(s, 1), there ? model.state.said().get(s).first() : -1);
@@ -231,14 +255,18 @@ public final class ModelTest {
         due("statement 3 of " + s, book.statement(s, 3), there ? model.rely(s) > 0 ? 1 : 0 : -1);
         due("statement 4 of " + s, book.statement(s, 4), there ? model.rely(s) : -1);
         due("amount of " + s, book.amount(s), there ? model.state.said().get(s).amount() : Long.MIN_VALUE);
-        if (!there || model.verdicts.get(s) != 2) {
-            due("cut", book.cut(s, random.nextInt(3) - 1), -1);
-        } else if (!all) {
-            askCut(s);
-        }
     }
 
-    private void askCut(int s) {
+    /** Asks for the CUT of the next one that is REFUSED, if there is one, else of what it is. */
+    private void askCut(int from) {
+        int s = from;
+        while (s >= 0 && s < model.statements() && model.verdicts.get(s) != 2) {
+            s++;
+        }
+        if (s < 0 || s >= model.statements()) {
+            due("cut of " + from, book.cut(from, random.nextInt(3) - 1), -1);
+            return;
+        }
         List<Integer> cut = model.cut(s);
         for (int k = 0; cut != null && k < cut.size(); k++) {
             due("cut at " + k + " of " + s, book.cut(s, k), cut.get(k));

@@ -21,17 +21,24 @@ public final class RoomTest {
 
     private static OffsetBook fullBook() {
         OffsetBook book = new OffsetBook();
+        StringBuilder text = new StringBuilder();
         for (int n = 0; n < 120; n++) {
             String one = "" + (char) ('a' + n % 26);
             String other = "" + (char) ('a' + (n * 7 + n / 26 + 1) % 13) + (n % 3 == 0 ? "x" : "");
-            Check.tell(book, one.equals(other) ? one + "=5" : one + "=" + other + "+" + n % 2);
+            text.append(one).append("=").append(one.equals(other) ? "5" : other + "+" + n % 2);
+            if (n % 12 == 11) {
+                Check.tell(book, text.toString());
+                text.setLength(0);
+            } else {
+                text.append(";");
+            }
         }
         Check.due("full", book.count(1), 120);
         return book;
     }
 
     private static void dearCalls(OffsetBook book) {
-        for (int n = 0; n < 40; n++) {
+        for (int n = 0; n < 25; n++) {
             book.feed(0x613d6221, n, n, n, n);
             book.tell();
             book.feed(0x613d6200, n, n, n, n);

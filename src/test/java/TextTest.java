@@ -149,21 +149,8 @@ public final class TextTest {
         Check.due("amount", book.amount(0), -999999999999999999L);
     }
 
-    private static OffsetBook withNames(int names) {
-        OffsetBook book = new OffsetBook();
-        for (int n = 0; n < names; n++) {
-            Check.tell(book, name(n) + "=1");
-        }
-        Check.due("gauges", book.count(0), names + 1);
-        return book;
-    }
-
-    private static String name(int n) {
-        return "" + (char) ('a' + n / 26) + (char) ('a' + n % 26);
-    }
-
     private static void namesTooMany() {
-        OffsetBook book = withNames(39);
+        OffsetBook book = Check.withNames(39);
         Check.due("two more", Check.tell(book, "x = aa; y = aa"), Check.fault(8, 3));
         Check.due("two more in one", Check.tell(book, "x = y ?"), Check.fault(4, 3));
         Check.due("none came", book.count(0), 40);
@@ -176,8 +163,8 @@ public final class TextTest {
         Check.due("test of a 41st", Check.test(book, " y = 1"), Check.fault(1, 3));
         Check.due("those that are there", Check.tell(book, "bn=x"), Check.fault(0, 3));
         Check.due("those that are there", Check.tell(book, "bm=x"), 42);
-        Check.due("undo", book.undo(), 19);
-        Check.due("undo", book.undo(), 18);
+        Check.due("undo", book.undo(), 5);
+        Check.due("undo", book.undo(), 4);
         Check.due("gauges", book.count(0), 40);
         Check.due("a 40th again", Check.tell(book, "bn=aa"), 40);
         Check.due("bn", Check.gauge(book, "bn"), 40);
@@ -221,7 +208,7 @@ public final class TextTest {
     }
 
     private static void leastOfOnePlace() {
-        OffsetBook book = withNames(40);
+        OffsetBook book = Check.withNames(40);
         Check.due("2 of 2 and 3", Check.tell(book, "zzzzzzz=1"), Check.fault(0, 2));
         Check.due("2 of 2 and 3 behind =", Check.tell(book, "aa=zzzzzzz"), Check.fault(3, 2));
         Check.due("2 of 2 and 3 in test", Check.test(book, "zzzzzzz=1"), Check.fault(0, 2));
@@ -231,7 +218,7 @@ public final class TextTest {
     private static void tooManyAheadOfItsName() {
         String twelve = "aa=1;aa=1;aa=1;aa=1;aa=1;aa=1;aa=1;aa=1;aa=1;aa=1;aa=1;aa=1;";
         String[] thirteenths = {"ab=1", "abcdefg=1", "abcdefghijk", "z=1", "z", "zzzzzzz?", "a?"};
-        OffsetBook book = withNames(40);
+        OffsetBook book = Check.withNames(40);
         for (String more : thirteenths) {
             Check.due("13th " + more, Check.tell(book, twelve + more), Check.fault(60, 5));
             Check.due("13th, blanks ahead " + more, Check.tell(book, twelve + "  " + more),
