@@ -16,6 +16,7 @@ public final class ChainTest {
         waysGivenUp();
         theLastNumbers();
         blame();
+        blameFromFirstToSecond();
         Check.finish("ChainTest");
     }
 
@@ -254,5 +255,21 @@ public final class ChainTest {
         Check.due("blame", book.blame(0), 1);
         Check.due("how many", book.blame(1), 3);
         Check.due("blame(2)", book.blame(2), -1);
+    }
+
+    /** From a to b the CHAIN is 0, 3 (not 1, 2), from b to a it is 2, 1 (not 3, 0). */
+    private static void blameFromFirstToSecond() {
+        OffsetBook book = Check.told("a=c;a=d;d=b;c=b");
+        chain(book, 1, 4, 0, 3);
+        chain(book, 4, 1, 2, 1);
+        Check.due("tell", Check.tell(book, "b=a+1"), 5);
+        Check.due("blame(0)", book.blame(0), 1);
+        Check.due("blame(1)", book.blame(1), 1);
+        Check.due("tell", Check.tell(book, "a=b+1;a=b+2"), 7);
+        Check.due("blame(0)", book.blame(0), 0);
+        Check.due("blame(1)", book.blame(1), 2);
+        Check.due("retract", book.retract(6), 4);
+        Check.due("of several the least", book.blame(0), 0);
+        Check.due("blame(1)", book.blame(1), 1);
     }
 }

@@ -24,6 +24,7 @@ public final class LimitsTest {
         asFarAsCanBe();
         farEndsOfGroups();
         beyondInEitherOrder();
+        neverBeyondInOneGroup();
         lastTwentyActs();
         ringOfActs();
         the512thCall();
@@ -301,6 +302,18 @@ public final class LimitsTest {
         }
         Check.due("as far as can be", Check.test(book, "c=e+999999999999999999"), 3);
         Check.due("as far as can be", Check.test(book, "a=e+999999999999999999"), 0);
+    }
+
+    /** "in one GROUP": KNOWN or REFUSED, however far it would lead. */
+    private static void neverBeyondInOneGroup() {
+        OffsetBook book = Check.told("a=999999999999999999;b=a+1;c=0");
+        Check.due("as it is", Check.test(book, "a=999999999999999999"), 1);
+        Check.due("the other way", Check.test(book, "a=-999999999999999999"), 2);
+        Check.due("as it is", Check.test(book, "c=a-999999999999999999"), 1);
+        Check.due("the other way", Check.test(book, "c=a+999999999999999999"), 2);
+        Check.due("as far as can be told", Check.test(book, "b=999999999999999999"), 2);
+        Check.due("as far as can be told", Check.test(book, "c=b-999999999999999999"), 2);
+        Check.due("as far as can be told", Check.test(book, "b=c-999999999999999999"), 2);
     }
 
     /** "The last 20 can be UNDONE, the last first". */
