@@ -414,14 +414,73 @@ final class Model {
         return first.contains(state.said.get(s).second) ? 0 : first.size() * second.size();
     }
 
-    /** Tries every side that the first GAUGE could be left on; null, if these are too many. */
     List<Integer> cut(int s) {
+        boolean few = groupOf(state.said.get(s).first).size() <= 13;
+        return few ? cutByTrying(s) : cutByCounting(s);
+    }
+
+    /**
+     * A GAUGE is left on the first one's side in the CUT that is asked for just if it takes more
+     * to cut the first one off from both it and the second one.
+     */
+    private List<Integer> cutByCounting(int s) {
+        Said said = state.said.get(s);
+        int size = waysApart(said.first, List.of(said.second));
+        List<Integer> side = new ArrayList<>(List.of(said.first));
+        for (int g : groupOf(said.first).keySet()) {
+            if (g != said.first && g != said.second
+                && waysApart(said.first, List.of(said.second, g)) > size) {
+                side.add(g);
+            }
+        }
+        return between(side);
+    }
+
+    /** How many ways that share no STATEMENT lead from a GAUGE to any of the ends. */
+    private int waysApart(int from, List<Integer> ends) {
+        // Each STATEMENT in use, with the GAUGE that it is left from.
+        Map<Integer, Integer> used = new HashMap<>();
+        int ways = 0;
+        while (oneWayMore(from, ends, used, new ArrayList<>())) {
+            ways++;
+        }
+        return ways;
+    }
+
+    private boolean oneWayMore(int at, List<Integer> ends, Map<Integer, Integer> used, List<Integer> met) {
+        if (ends.contains(at)) {
+            return true;
+        }
+        met.add(at);
+        for (int s : standing()) {
+            int to = across(s, at);
+            boolean free = to >= 0 && !met.contains(to) && (!used.containsKey(s) || used.get(s) == to);
+            if (free && oneWayMore(to, ends, used, met)) {
+                if (used.remove(s) == null) {
+                    used.put(s, at);
+                }
+                return true;
+            }
+        }
+        return false;
+    }
+
+    private List<Integer> between(List<Integer> side) {
+        List<Integer> cut = new ArrayList<>();
+        for (int t : standing()) {
+            Said way = state.said.get(t);
+            if (side.contains(way.first) != side.contains(way.second)) {
+                cut.add(t);
+            }
+        }
+        return cut;
+    }
+
+    /** Tries every side that the first GAUGE could be left on. */
+    private List<Integer> cutByTrying(int s) {
         Said said = state.said.get(s);
         List<Integer> others = new ArrayList<>(groupOf(said.first).keySet());
         others.removeIf(g -> g == said.first || g == said.second);
-        if (others.size() > 11) {
-            return null;
-        }
         List<Integer> best = null;
         for (int set = 0; set < 1 << others.size(); set++) {
             List<Integer> side = new ArrayList<>(List.of(said.first));
@@ -430,13 +489,7 @@ final class Model {
                     side.add(others.get(n));
                 }
             }
-            List<Integer> cut = new ArrayList<>();
-            for (int t : standing()) {
-                Said way = state.said.get(t);
-                if (side.contains(way.first) != side.contains(way.second)) {
-                    cut.add(t);
-                }
-            }
+            List<Integer> cut = between(side);
             if (best == null || cut.size() < best.size() || cut.size() == best.size()
                 && side(said.first, cut).size() < side(said.first, best).size()) {
                 best = cut;

@@ -34,6 +34,9 @@ public final class ModelTest {
         for (int seed = 0; seed < runs && !Check.anyWrong(); seed++) {
             new ModelTest(seed).go();
         }
+        for (int seed = 0; seed < runs / 30 && !Check.anyWrong(); seed++) {
+            new ModelTest(seed).crowd();
+        }
         Check.finish("ModelTest");
     }
 
@@ -68,6 +71,42 @@ public final class ModelTest {
             // The next run has a new object.
             return;
         }
+    }
+
+    /** All STATEMENTS that can be kept, between many GAUGES, so that many ways have to be cut. */
+    private void crowd() {
+        try {
+            int gauges = 14 + random.nextInt(27);
+            int knots = 1 + random.nextInt(4);
+            for (int n = 0; n < 120; n += 12) {
+                StringBuilder text = new StringBuilder();
+                for (int s = n; s < n + 12; s++) {
+                    text.append(s == n ? "" : ";").append(crowded(gauges, knots, s >= 112));
+                }
+                write(text.toString());
+                due("tell", book.tell(), model.tell());
+            }
+            while (!Check.anyWrong()) {
+                ask();
+                askCut(112 + random.nextInt(8));
+            }
+        } catch (Spent spent) {
+            // The next run has a new object.
+            return;
+        }
+    }
+
+    /** Most are within one of the knots of GAUGES; all that are not wrong tell that all are alike. */
+    private String crowded(int gauges, int knots, boolean wrong) {
+        int one = 1 + random.nextInt(gauges);
+        int other = random.nextInt(gauges + 1);
+        if (!wrong && random.nextInt(8) > 0) {
+            other = other - other % knots + one % knots;
+        }
+        if (other == 0 || other == one || other > gauges) {
+            return name(one) + (wrong ? "=1" : "=0");
+        }
+        return name(one) + "=" + name(other) + (wrong ? "+1" : "");
     }
 
     private void change() {
@@ -268,13 +307,11 @@ public final class ModelTest {
             return;
         }
         List<Integer> cut = model.cut(s);
-        for (int k = 0; cut != null && k < cut.size(); k++) {
+        for (int k = 0; k < cut.size(); k++) {
             due("cut at " + k + " of " + s, book.cut(s, k), cut.get(k));
         }
-        if (cut != null) {
-            due("cut of " + s, book.cut(s, -1), cut.size());
-            askChain(random.nextInt(model.gauges()), random.nextInt(model.gauges()));
-            due("cut behind", book.cut(s, cut.size()), -2);
-        }
+        due("cut of " + s, book.cut(s, -1), cut.size());
+        askChain(random.nextInt(model.gauges()), random.nextInt(model.gauges()));
+        due("cut behind", book.cut(s, cut.size()), -2);
     }
 }
